@@ -511,7 +511,8 @@ public final class FlagSignals {
     }
 
     private int betterFlag() {
-        int most = Integer.bitCount(clearNow());
+        watchIn(now.weatherNumber());
+        int most = Integer.bitCount(watch.clearOnes(ship));
         int best = NONE;
         for (int f = 0; f < ship.flags && f < MOST_FLAGS; f++) {
             int told = ship.signalsWith(f);
@@ -803,6 +804,9 @@ public final class FlagSignals {
         void startSignal() {
             if (signals < MOST_SIGNALS) {
                 lengths[signals] = 0;
+                for (int place = 0; place < PLACES; place++) {
+                    rows[signals * PLACES + place] = NONE;
+                }
             }
         }
 
@@ -820,10 +824,8 @@ public final class FlagSignals {
         }
 
         int flagAt(int e, int place) {
-            if (!hasSignal(e) || place < 0 || place >= lengths[e] || place >= PLACES) {
-                return NONE;
-            }
-            return rows[e * PLACES + place];
+            boolean told = e >= 0 && e < signals && e < MOST_SIGNALS && place >= 0 && place < PLACES;
+            return told ? rows[e * PLACES + place] : NONE;
         }
 
         int signalsWith(int f) {

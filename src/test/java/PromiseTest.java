@@ -130,8 +130,11 @@ public final class PromiseTest {
         due("3: book", x.told(20), 0);
         due("3: undone", x.told(21), 0);
         due("3: image", x.goBack(0), NOT);
+        x.hoist(0, 0);
+        tell(x, CUTTER);
+        due("3: substitutes are free", x.needs(0, 4), 23);
         due("3: no ship", x.ship(), 0);
-        due("3: no lines", x.told(0), 0);
+        for (int what = 0; what <= 3; what++) due("3: no ship, told(" + what + ")", x.told(what), 0);
         due("3: no wind", x.told(7), 0);
         due("3: seed stays", x.seed(0), 77);
     }
@@ -224,6 +227,11 @@ public final class PromiseTest {
         // Two looks of three parts: SIGNAL 1 parts 6 into 3 and 3, SIGNAL 3 into 4 and 2.
         FlagSignals y = ship("l1 0;f0 0 0;f1 0 2;f0 2 2;f2 2 0;e2;e1;e0;e3;");
         due("5: ask for the least of the greatest", y.told(19), 1);
+        // Crossed of 2 is read for plain 2: fog, with wind or without; SIGNAL 2 tells by its like, 3.
+        FlagSignals fog = ship("l1 0;f2 2 0;f0 2 2;f1 0 2;f0 0 0;e0;e1;e2;e3;");
+        fog.read(0, 1);
+        due("5: fog", fog.told(18), 16 + 32);
+        due("5: ask for the wind", fog.told(19), 2);
         // SIGNAL 0 is alone in all weathers; 1 and 2 part alike, the least of them is asked.
         FlagSignals z = ship("l1 0;f0 3 3;f1 0 2;f0 0 0;e0;e1;e2;");
         due("5: ask for the least of like ones", z.told(19), 1);
@@ -285,6 +293,10 @@ public final class PromiseTest {
         FlagSignals x = ship(BARK);
         int[] fourth = {3, 3, 4, 3, NONE, 8, NONE};
         for (int what = 0; what < fourth.length; what++) due("7: signal(3, " + what + ")", x.signal(3, what), fourth[what]);
+        due("7: the fourth flag", ship(CUTTER).signal(3, 4), 1);
+        x.hoist(0, 4);
+        due("7: the least line", x.signal(4, 6), 0);
+        x.haul(0);
         x.weather(1, true);
         due("7: like in haze", x.signal(0, 5), 3);
         due("7: like the other", x.signal(7, 5), 64 + 128);
