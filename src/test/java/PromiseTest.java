@@ -1,4 +1,4 @@
-/** For each promise of the document: ordinary inputs, its edges, wrong inputs; what is due is worked out by hand. */
+/** For each promise: ordinary inputs, edges, wrong inputs; what is due is worked out by hand, or (some of BARK) taken from the shared runs. */
 public final class PromiseTest {
     private static final int NONE = -1, UNKNOWN = -1000000001, OUTSIDE = -1000000002, NOT = -1000000003, FULL = -1000000004;
     private static final int FAR = Integer.MAX_VALUE, LOW = Integer.MIN_VALUE;
