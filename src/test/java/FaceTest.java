@@ -42,17 +42,23 @@ public final class FaceTest {
         Set<String> found = new TreeSet<>();
         Set<String> publicNames = new HashSet<>();
         for (Field f : FlagSignals.class.getDeclaredFields()) {
-            if (!Modifier.isPrivate(f.getModifiers())) found.add(f.getType().getSimpleName() + " " + f.getName());
+            boolean constant = f.getModifiers() == (Modifier.PUBLIC | Modifier.STATIC | Modifier.FINAL);
+            check(constant || Modifier.isPrivate(f.getModifiers()), f.getName() + " is neither a public constant nor private");
+            if (constant) found.add(f.getType().getSimpleName() + " " + f.getName());
             if (Modifier.isStatic(f.getModifiers())) check(Modifier.isFinal(f.getModifiers()), f.getName() + " is static and not final");
         }
-        for (Constructor<?> c : FlagSignals.class.getDeclaredConstructors()) found.add("FlagSignals" + parameters(c.getParameterTypes()));
+        for (Constructor<?> c : FlagSignals.class.getDeclaredConstructors()) {
+            check(Modifier.isPublic(c.getModifiers()), c + " is not public");
+            found.add("FlagSignals" + parameters(c.getParameterTypes()));
+        }
         for (Method m : FlagSignals.class.getDeclaredMethods()) {
             if (Modifier.isPrivate(m.getModifiers())) continue;
+            check(m.getModifiers() == Modifier.PUBLIC, m + " is not public alone");
             found.add(m.getReturnType().getSimpleName() + " " + m.getName() + parameters(m.getParameterTypes()));
             publicNames.add(m.getName());
         }
         check(found.equals(new TreeSet<>(Set.of(FACE))), "the face is " + found);
-        check(Modifier.isFinal(FlagSignals.class.getModifiers()), "the class is not final");
+        check(FlagSignals.class.getModifiers() == (Modifier.PUBLIC | Modifier.FINAL), "the class is not public and final");
         members(FlagSignals.class, publicNames);
         check(FlagSignals.class.getDeclaredClasses().length < 12, "too many classes");
         for (Class<?> inside : FlagSignals.class.getDeclaredClasses()) {
